@@ -99,6 +99,8 @@ public final class PromisesTest {
         due("3", x.end(400), 400);
         due("3 too many", x.end(401), -1);
         due("3 below 0", x.end(-1), -1);
+        due("3 empty", new WashingLines().end(0), 0);
+        due("3 empty", new WashingLines().end(1), -1);
         due("3", x.end(381), 381);
         due("2 over", x.feed(1, 2, 3, 4, 5), -1);
         due("3", x.end(380), 380);
@@ -249,6 +251,7 @@ public final class PromisesTest {
         ruleFault("claim1;", 7, 0);
         ruleFault("claimwet", 0, 0);
         ruleFault("claim wets", 6, 0);
+        ruleFault("claim wetz", 6, 0);
         ruleFault("claim we", 6, 0);
         ruleFault("claim linen", 6, 0);
         ruleFault("claim 123456", 6, 1);
@@ -287,6 +290,7 @@ public final class PromisesTest {
         ruleFault("claim 1 if " + "not ".repeat(11) + "1=1", 51, 2);
         ruleFault("claim 1 if " + "not[".repeat(5) + "not 1=1", 31, 2);
         ruleFault("claim 1 if " + "not[".repeat(5) + "[1=1", 31, 2);
+        ruleFault("claim 1 if " + "not ".repeat(10) + "[1=1", 51, 2);
         ruleFault("claim 1 if " + "[".repeat(10) + ";", 21, 0);
         ruleFault("claim 1" + "+1".repeat(60), 126, 3);
         ruleFault("claim 1" + "+1".repeat(59) + "+123456", 126, 1);
@@ -343,6 +347,7 @@ public final class PromisesTest {
         due("5 rain no more", owner(court, "claim 1 if family=1 and rain=1", 2), -1);
         due("5 wettest of none", owner(court, "claim 1 if family=0 and wettest=0 and all=0", 0), 0);
         due("5 held by nobody", owner(court, "claim held+family", 0), 1);
+        due("5 held by nobody", owner(court, "claim 1 if family=1 and held=0", 0), 1);
     }
 
     private static void sum(String sum, String value) {
@@ -707,6 +712,7 @@ public final class PromisesTest {
         due("20 of several the least", x.game(1, 0, 1, 1), 1);
         x.hang(0, 0);
         due("20 of several the least", x.game(1, 0, 1, 1), 2);
+        due("20 has none to hang", x.game(0, 1, 1, 1), -1);
     }
 
     private static void sets() {
@@ -851,6 +857,13 @@ public final class PromisesTest {
         x.force(1);
         due("28 from the begin on, as the text told it", x.ruled(1), 0);
         due("27 away without a court", new WashingLines().log(-1, 0, 0), 0);
+        x = with("court 1 1;family 3;line 0 1 3 9");
+        rule(x, "claim hour<61");
+        x.log(60, 0, 0);
+        due("28 none, behind the last hour", x.ruled(0), 0);
+        rule(x, "claim 1 if hour=60");
+        due("28 behind the last hour", x.ruled(1), 0);
+        due("28 the hours stay", x.count(7), 0);
     }
 
     private static void looks() {
@@ -872,6 +885,12 @@ public final class PromisesTest {
         x.log(0, 1, 0);
         due("29 none is so", x.look(0, 0), -2);
         due("29 none is so", x.look(0, 1), -2);
+        x.log(-1, 0, 0);
+        rule(x, "claim 1-family");
+        rule(x, "claim 1-family");
+        rule(x, "claim 1-family");
+        due("29 all six and none", x.ruled(0), 7);
+        due("29 all six and none", x.look(2, 1), 4);
         due("29 none", x.look(61, 0), -1);
         due("29 none", x.look(-1, 0), -1);
         due("29 none", x.look(0, 2), -1);
@@ -909,6 +928,7 @@ public final class PromisesTest {
         due("32 dry", x.years(1, 3, 0, 1), 1);
         due("32 ten times", x.years(10, 3, 0, 0), 50);
         due("32 as told too", x.years(1, 6, 0, 0), 15);
+        due("32 sixty hours", x.years(1, 60, 0, 0), 15);
         due("32 always", x.years(1, 6, 100, 0), 30);
         due("32 always", x.years(2, 6, 100, 1), 0);
         // From 0 on the draws are 0, 21468, 9988, 22117: mod 100 this is 0, 68, 88, 17.
