@@ -173,6 +173,9 @@ final class AskEdges {
         for (int what = 1; what <= 4; what++) {
             e.due("the last LINE", last.most(0, 12, what), 5);
         }
+        WashingLines theirs = Edge.under("court 1 1;family 9;family 9;line 0 1 5 9;linen 1 1 9;linen 0 1 9", "claim others");
+        e.due("its LINEN alone", theirs.most(0, 1, 0), 0);
+        e.due("its LINEN alone", theirs.most(0, 1, 2), -2);
         // What others have does not count, nor what hangs.
         WashingLines x = Edge.with("court 1 1;family 20;family 20;line 0 1 9 9;linen 1 1 9;linen 0 1 9;linen 1 1 9;"
             + "linen 0 1 9;hung 1 0");
@@ -249,6 +252,11 @@ final class AskEdges {
         e.within("n", 1, 3, -100000, n -> Edge.with(court).game(0, 1, n, 0));
         e.within("n", 1, 3, -100000, n -> Edge.with(court).game(0, 1, n, 1));
         e.due("the other one first", Edge.with(court).game(1, 0, 1, 0), 5);
+        // By this rule one would like to hang what is the other one's.
+        WashingLines theirs = Edge.under("court 1 1;family 8;family 8;line 0 1 5 9;linen 0 1 9;linen 1 1 9", "claim others");
+        e.due("LINEN of theirs alone", theirs.game(0, 1, 1, 0), 0);
+        e.due("LINEN of theirs alone, first", theirs.game(0, 1, 1, 1), -1);
+        e.due("LINEN of theirs alone, in turn", theirs.game(0, 1, 2, 0), 0);
         WashingLines x = Edge.with("court 1 1;family 1;family 2;line 0 1 4 9;linen 0 1 9;linen 1 1 9");
         e.due("PEGS for none", x.game(0, 1, 1, 0), 0);
         e.due("PEGS for none: nothing", x.game(0, 1, 1, 1), -1);
@@ -355,6 +363,12 @@ final class AskEdges {
             + "linen 1 1 1;hung 0 0;hung 1 0;hung 2 0", "claim 1 if family=0 and pegs<5");
         e.due("the PEGS of two", pegs.free(0, 0), 2);
         e.due("the PEGS of two", pegs.free(0, 1), 3);
+        pegs.take(0);
+        pegs.take(1);
+        e.due("nobody's", pegs.free(0, 0), 0);
+        pegs.hang(0, 1);
+        pegs.hang(1, 1);
+        e.due("what hangs elsewhere is not taken", pegs.free(0, 0), -2);
     }
 
     @Sentence(promise = 21, words = "FREE what 0: how many, 1: the set; -2: by none. NONE without these.")
@@ -406,6 +420,8 @@ final class AskEdges {
         }
         WashingLines pegs = Edge.under("court 1 1;family 3;family 4;line 0 1 9 9;linen 0 1 1;linen 0 1 1;linen 1 1 1;linen 1 1 1",
             "claim 1 if cells=2");
+        WashingLines theirs = Edge.under("court 1 1;family 9;family 9;line 0 1 5 9;linen 1 1 9;linen 0 1 9", "claim others");
+        e.due("LINEN of theirs alone", theirs.few(0, 0, 0), -2);
         e.due("PEGS for one of two", pegs.few(0, 0, 0), -2);
         e.due("PEGS for two", pegs.few(1, 0, 1), 12);
         WashingLines length = Edge.under("court 1 1;family 9;line 0 1 4 9;line 0 1 5 9;linen 0 2 1;linen 0 3 1", "claim 1 if "

@@ -404,6 +404,9 @@ final class CourtEdges {
         e.courtFault("court 1^", 0);
         e.courtFault("court 1    ^", 0);
         e.courtFault("court 1 1;  ^", 0);
+        e.courtFault("court 1^a 1", 0);
+        e.courtFault("court 1 1^a", 0);
+        e.courtFault("court^A 1 1", 0);
         e.courtFault("^Court 1 1", 0);
         e.courtFault("^cOURT 1 1", 0);
     }

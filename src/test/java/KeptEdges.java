@@ -163,6 +163,14 @@ final class KeptEdges {
         for (int rules = 1; rules <= 6; rules++) {
             e.due("all alike but none", ruled(court, rules).look(0, 1), rules);
             e.due("all alike: the least LINE", ruled(court, rules).look(0, 0), 0);
+            WashingLines last = ruled(court, rules - 1);
+            Edge.rule(last, "claim family");
+            e.due("the last one is unlike", last.look(0, 1), Math.max(1, rules - 1));
+            WashingLines third = Edge.with(court);
+            for (int rule = 0; rule < rules; rule++) {
+                Edge.rule(third, "claim family");
+            }
+            e.due("all alike, of the last FAMILY", third.look(0, 1), rules);
         }
         // Line 0: nobody, 0, 0, 0, 0. Line 1: nobody, 0, 1, 1, 0. Line 2: nobody, 0, 1, 2, 3.
         WashingLines x = Edge.with(court);

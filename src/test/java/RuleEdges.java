@@ -172,6 +172,9 @@ final class RuleEdges {
         e.ruleFault("claim 12345 ^6", 0);
         e.ruleStands("claim 1if 1=1");
         e.ruleFault("claim 1^wet", 0);
+        for (char sign : "/:.,_Aaz".toCharArray()) {
+            e.ruleFault(sign == '/' ? "claim 12/^" : "claim 12^" + sign, 0);
+        }
         holds(e, "99999-99998=1", true);
         holds(e, "00012=12", true);
         holds(e, "99999+1>99999", true);
@@ -189,8 +192,9 @@ final class RuleEdges {
                 e.ruleFault("claim ^" + word + letter, 0);
                 e.ruleFault("claim ^" + letter + word, 0);
             }
-            e.ruleFault("claim " + word + "^`", 0);
-            e.ruleFault("claim " + word + "^{", 0);
+            for (char sign : "`{@[AZ_\u00e9".toCharArray()) {
+                e.ruleFault("claim " + word + "^" + sign, 0);
+            }
             e.ruleFault("claim ^" + word.substring(1), 0);
             e.ruleFault("claim ^" + word.substring(0, word.length() - 1), 0);
             e.ruleFault("claim ^" + Character.toUpperCase(word.charAt(0)) + word.substring(1), 0);
