@@ -404,6 +404,12 @@ final class CourtEdges {
         e.courtFault("court 1^", 0);
         e.courtFault("court 1    ^", 0);
         e.courtFault("court 1 1;  ^", 0);
+        for (String word : new String[] {"court", "family", "line", "linen", "hung", "rain"}) {
+            for (int i = 0; i < word.length(); i++) {
+                e.courtFault("court 1 1;^" + word.substring(0, i) + "z" + word.substring(i + 1), 0);
+            }
+        }
+        e.courtFault("^zourt 1 1", 0);
         e.courtFault("court 1^a 1", 0);
         e.courtFault("court 1 1^a", 0);
         e.courtFault("court^A 1 1", 0);
@@ -487,7 +493,12 @@ final class CourtEdges {
         e.due("bytes", x.count(14), 0);
         e.same("all of it", Edge.all(x), Edge.all(Edge.with("court 2 3;family 4;line 6 7 5 8;linen 0 1 2")));
         e.due("no RAIN is left", x.count(10), 0);
+        for (int i = 0; i < 2; i++) {
+            e.due("all the RAINS", Edge.court(x, "court 1 1;rain 0 0;rain 1 1;rain 2 2"), 0);
+            e.due("RAIN", x.count(10), 1);
+        }
         e.due("the smallest court", Edge.court(x, "court 1 1"), 0);
+        e.due("no RAIN is left", x.count(10), 0);
         e.same("all of it", Edge.all(x), Edge.all(Edge.with("court 1 1")));
         e.due("the full court", Edge.court(x, FULL), 6);
         e.same("all of it", Edge.all(x), Edge.all(Edge.with(FULL)));

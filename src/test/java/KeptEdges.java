@@ -191,6 +191,11 @@ final class KeptEdges {
         e.due("behind HOUR 59", y.look(59, 1), 3);
         e.due("behind HOUR 60", y.look(60, 0), 2);
         e.due("behind HOUR 60", y.look(60, 1), 1);
+        WashingLines six = Edge.with(FULL);
+        e.due("of six LINES", six.look(0, 0), 0);
+        Edge.rule(six, "claim 1 if line=5 and family=3");
+        e.due("the last of six LINES", six.look(60, 0), 5);
+        e.due("the last of six LINES", six.look(60, 1), 1);
         WashingLines nobody = Edge.with(court);
         Edge.rule(nobody, "claim 0");
         Edge.rule(nobody, "claim 1 if line=1 and family=3");
@@ -537,6 +542,31 @@ final class KeptEdges {
         e.due("what can be UNDONE", x.count(12), 20);
         e.due("LINEN is down", x.linen(0, 3), -1);
         logsAsTheyWere(e);
+        actsAsTheyWere(e);
+    }
+
+    /** As many acts are done behind the image as can be undone, so that nothing of what it holds is left elsewhere. */
+    private static void actsAsTheyWere(Edge e) {
+        for (int acts = 19; acts <= 23; acts++) {
+            WashingLines x = Edge.with("court 1 5;family 9;line 0 1 5 9;linen 0 1 20;hung 0 0");
+            for (int i = 0; i < acts; i++) {
+                x.hour();
+            }
+            x.image(0);
+            for (int i = 0; i < 20; i++) {
+                x.cut(0);
+                x.mend(0);
+            }
+            e.due("back(0)", x.back(0), acts);
+            for (int hour = acts - 1; hour >= Math.max(0, acts - 20); hour--) {
+                x.undo();
+                e.due("HOUR", x.count(7), hour);
+                e.due("WET", x.linen(0, 2), Math.max(0, 20 - hour));
+                e.due("AIR", x.family(0, 1), 5 * Math.min(20, hour));
+                e.due("it hangs", x.linen(0, 3), 0);
+            }
+            e.due("no more", x.undo(), -2);
+        }
     }
 
     private static void logsAsTheyWere(Edge e) {

@@ -195,6 +195,9 @@ final class RuleEdges {
             for (char sign : "`{@[AZ_\u00e9".toCharArray()) {
                 e.ruleFault("claim " + word + "^" + sign, 0);
             }
+            for (int i = 0; i < word.length(); i++) {
+                e.ruleFault("claim ^" + word.substring(0, i) + "z" + word.substring(i + 1), 0);
+            }
             e.ruleFault("claim ^" + word.substring(1), 0);
             e.ruleFault("claim ^" + word.substring(0, word.length() - 1), 0);
             e.ruleFault("claim ^" + Character.toUpperCase(word.charAt(0)) + word.substring(1), 0);
@@ -205,6 +208,15 @@ final class RuleEdges {
         for (String word : new String[] {"linen", "court", "hung", "claim", "if", "and", "or", "not", "x", "z"}) {
             e.ruleFault("claim ^" + word, 0);
         }
+        for (String word : new String[] {"zlaim", "czaim", "claiz"}) {
+            e.ruleFault("^" + word + " 1", 0);
+        }
+        e.ruleFault("claim 1 ^zf 1=1", 0);
+        e.ruleFault("claim 1 ^iz 1=1", 0);
+        e.ruleFault("claim 1 if ^zot 1=1", 0);
+        e.ruleFault("claim 1 if 1=1 ^znd 1=1", 0);
+        e.ruleFault("claim 1 if 1=1 ^zr 1=1", 0);
+        e.ruleFault("claim 1 if 1=1 ^oz 1=1", 0);
         e.ruleFault("claim wet ^test", 0);
         e.ruleFault("claim ^wet" + "t".repeat(391), 0);
         e.ruleFault("claim ^wetifwet=1", 0);
