@@ -1261,14 +1261,16 @@ public final class WashingLines {
         }
 
         Law lawOf(int rule) {
-            return isRule(rule) ? written[rule] : plain;
+            Law law = isRule(rule) ? written[rule] : plain;
+            return law == null ? plain : law;
         }
 
         int write(Law law) {
-            if (rules < 0 || rules >= RULES) {
+            Law blank = rules >= 0 && rules < RULES ? written[rules] : null;
+            if (blank == null) {
                 return NONE;
             }
-            written[rules].copyFrom(law);
+            blank.copyFrom(law);
             rules++;
             return rules - 1;
         }
@@ -1306,7 +1308,7 @@ public final class WashingLines {
             court.copyFrom(other.court);
             now.copyFrom(other.now);
             for (int i = 0; i < UNDOS; i++) {
-                past[i].copyFrom(other.past[i]);
+                copyYard(other.past[i], past[i]);
             }
             nextPast = other.nextPast;
             undoable = other.undoable;
@@ -1321,7 +1323,7 @@ public final class WashingLines {
         /** To be called ahead of every act. */
         void keepPast() {
             int place = Math.floorMod(nextPast, UNDOS);
-            past[place].copyFrom(now);
+            copyYard(now, past[place]);
             nextPast = place + 1;
             undoable = Math.min(UNDOS, undoable + 1);
         }
@@ -1331,10 +1333,17 @@ public final class WashingLines {
                 return false;
             }
             int place = Math.floorMod(nextPast - 1, UNDOS);
-            now.copyFrom(past[place]);
+            copyYard(past[place], now);
             nextPast = place;
             undoable--;
             return true;
+        }
+
+        /** Places of a row may be empty, as the machine sees it, so both yards are looked at. */
+        private static void copyYard(Yard from, Yard to) {
+            if (from != null && to != null) {
+                to.copyFrom(from);
+            }
         }
 
         boolean hangs(int linen) {
@@ -1591,15 +1600,17 @@ public final class WashingLines {
 
         /** What lies outside low and high can't matter to the turns before, and is not looked through. */
         private int bestFrom(Hours hours, int turn, int low, int high) {
-            if (turn < 0 || turn >= turns || turn >= TURNS) {
+            Yard before = turn >= 0 && turn < turns && turn < TURNS ? turnYards[turn] : null;
+            if (before == null) {
                 return hours.yard.airOf(one) - hours.yard.airOf(other);
             }
-            turnYards[turn].copyFrom(hours.yard);
+            before.copyFrom(hours.yard);
             boolean ones = turn % 2 == 0;
             int mover = ones ? one : other;
             int found = ones ? low : high;
             for (int act = NONE; act < 10 * LINES && (ones ? found < high : found > low); act++) {
-                if (mayAct(hours.court, turnYards[turn], mover, act)) {
+                if (mayAct(hours.court, before, mover, act)) {
+                    hours.yard.copyFrom(before);
                     int value = bestBehind(hours, turn, act, ones ? found : low, ones ? high : found);
                     if (ones ? value > found : value < found) {
                         found = value;
@@ -1611,7 +1622,6 @@ public final class WashingLines {
         }
 
         private int bestBehind(Hours hours, int turn, int act, int low, int high) {
-            hours.yard.copyFrom(turnYards[turn]);
             if (act != NONE) {
                 hours.yard.putUp(hours.court, act % 10, act / 10);
             }

@@ -106,6 +106,7 @@ public final class LanguageTest {
         for (int n = 0; n < 20 && m.find(); n++) {
             must(false, "3 to 13: " + m.group());
         }
+        must(!Pattern.compile("\\]\\s*\\.").matcher(code).find(), "7: what stands in a row is used without being looked at");
         int start = -1;
         String[] lines = text.split("\n");
         for (int i = 0; i < lines.length; i++) {
